@@ -74,6 +74,13 @@ public final class LakeTownTest {
         x.lake(1, 2);
         x.lake(0, 3);
         Check.due("salty() is rounded down", x.salty(), 666);
+        x.lake(0, 1);
+        Check.due("salty() of LEVEL 1", x.salty(), 2000);
+        x.lake(0, 999);
+        Check.due("hold(999, 40)", x.hold(999, 40), 0);
+        x.lake(2, 1);
+        Check.due("hold(999, 1)", x.hold(999, 1), 1);
+        Check.due("hold(998, 1)", x.hold(998, 1), 0);
     }
 
     private static int alone(Model m, int kind, int set) {

@@ -11,6 +11,7 @@ public final class LandTest {
         wellTold();
         tellings();
         anew();
+        nothingLeftOver();
         Check.end("LandTest");
     }
 
@@ -115,6 +116,9 @@ public final class LandTest {
         fault("places\t2;", 6);
         fault("places -2;", 7);
         fault("places 2;dame 0 1;", 9);
+        fault("blaces 2;", 0);
+        fault("placesz 2;", 0);
+        fault("places 2;zdam 0 1;", 9);
         fault("places 2; \u00e9", 10);
         fault("places 2; \u0000", 10);
         fault("places 2;!dam", 9);
@@ -136,6 +140,47 @@ public final class LandTest {
         fault("places 2;follow 0 9 9 0;", 22);
         fault("places 2;follow 0 5 4 01;", 22);
         fault("places 2;follow 0 dam 4 1;", 18);
+    }
+
+    /** Neither what an earlier text told, nor a text with a FAULT, nor bytes that were cleared, count later. */
+    private static void nothingLeftOver() {
+        String rich = "places 8;river 3 2 9 9 9 9 9 9 9 9 9 9 9 9;town 3 1 2 3 1;work 3 1 2 3 4 5;dam 2 4;follow 0 5 0 5;";
+        TurnedRivers x = Check.landOf(rich, 6);
+        Check.tell(x, rich);
+        Check.due("land() again", x.land(), 6);
+        Check.tell(x, rich + "dam");
+        Check.due("land() with a fault", x.land(), -10 - rich.length());
+        x.clear();
+        for (int i = 0; i < 3; i++) {
+            Check.tell(x, "places 8;river 0 0 1 1 1 1 2 2 2 2 3 3 3 3;town 0 9 1 0 0;");
+            Check.due("land()", x.land(), 3);
+            int[] counts = {8, 1, 0, 0, 0};
+            for (int what = 0; what < 5; what++) {
+                Check.due("count " + what, x.count(what), counts[what]);
+            }
+            Check.due("gives(3, 0, 0)", x.gives(3, 0, 0), 0);
+            Check.due("keep(3, 0)", x.keep(3, 0), -1);
+            Check.due("mean(0, 2, 0)", x.mean(0, 2, 0), 40 + 80);
+            Check.due("mean(2, 2, 0)", x.mean(2, 2, 0), 120 + 80);
+        }
+        Check.tell(x, "places 10000000000");
+        x.clear();
+        Check.tell(x, "places 1");
+        Check.due("land() ends behind a number", x.land(), -18);
+        x.clear();
+        Check.tell(x, "places");
+        Check.due("land() ends behind a word", x.land(), -16);
+        x.clear();
+        for (int i = 0; i < 50; i++) {
+            x.type(0x3b3b3b3b3b3b3b3bL, 8);
+        }
+        Check.due("land() of 400 tokens", x.land(), -10);
+        x.clear();
+        Check.tell(x, "places 1;");
+        for (int i = 0; i < 391; i++) {
+            x.type(';', 1);
+        }
+        Check.due("land() of 393 tokens", x.land(), -19);
     }
 
     private static void faultsOfTowns() {

@@ -45,6 +45,25 @@ final class Model {
         return m;
     }
 
+    /** Narrow works among few places, so that paths get into one another's way and must be taken back. */
+    static Model crowded(Random r) {
+        Model m = new Model();
+        m.places = 4 + r.nextInt(3);
+        m.giveRiver(r, 0, 9);
+        m.giveRiver(r, 1, 9);
+        int towns = 1 + r.nextInt(2);
+        for (int t = 0; t < towns; t++) {
+            int v = 50 + r.nextInt(50);
+            m.town[m.towns++] = new int[] {m.places - 1 - t, 1 + r.nextInt(9), v, r.nextInt(10), v - r.nextInt(30)};
+        }
+        for (int w = 0; w < 8; w++) {
+            int a = r.nextInt(m.places);
+            int b = (a + 1 + r.nextInt(m.places - 1)) % m.places;
+            m.work[m.works++] = new int[] {a, b, 1 + r.nextInt(3), r.nextInt(10), 1, 1};
+        }
+        return m;
+    }
+
     private void giveRiver(Random r, int place, int units) {
         if (gives[place] != null) {
             return;
