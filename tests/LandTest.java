@@ -176,6 +176,11 @@ public final class LandTest {
         }
         Check.due("land() of 400 tokens", x.land(), -10);
         x.clear();
+        for (int i = 0; i < 50; i++) {
+            x.type(0x3b303b303b303b30L, 8);
+        }
+        Check.due("land() of 400 tokens, the last a number", x.land(), -10);
+        x.clear();
         Check.tell(x, "places 1;");
         for (int i = 0; i < 391; i++) {
             x.type(';', 1);

@@ -48,7 +48,7 @@ final class Model {
     /** Narrow works among few places, so that paths get into one another's way and must be taken back. */
     static Model crowded(Random r) {
         Model m = new Model();
-        m.places = 4 + r.nextInt(3);
+        m.places = 4 + r.nextInt(5);
         m.giveRiver(r, 0, 9);
         m.giveRiver(r, 1, 9);
         int towns = 1 + r.nextInt(2);

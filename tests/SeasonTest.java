@@ -11,7 +11,7 @@ public final class SeasonTest {
             oneMore(Model.byChance(r, i % 3 == 0), r);
             sendings(Model.byChance(r, i % 2 == 0), r);
         }
-        for (int i = 0; i < 2000; i++) {
+        for (int i = 0; i < 6000; i++) {
             Model m = Model.crowded(r);
             Check.due("most of " + m.text(), Check.landOf(m).most(0, 0, 255), m.most(0, 0, 255));
         }
@@ -99,6 +99,10 @@ public final class SeasonTest {
                 + "town 3 2 50 0 0;work 0 2 1 2 0 1;work 2 3 1 0 0 1;work 0 3 1 3 0 1;work 1 2 1 5 0 1;", 8);
         Check.due("most", x.most(0, 0, 15), 50 - 3 + 50 - 5);
         Check.due("most without a way round", x.most(0, 0, 11), 50 - 2);
+        TurnedRivers turned = Check.landOf("places 4;river 0 0 1 1 1 1 1 1 1 1 1 1 1 1;"
+                + "river 1 0 1 1 1 1 1 1 1 1 1 1 1 1;town 3 2 50 0 0;"
+                + "work 0 3 1 3 0 1;work 0 2 1 2 0 1;work 1 2 1 5 0 1;work 2 3 1 0 0 1;", 8);
+        Check.due("most, works told in another order", turned.most(0, 0, 15), 50 - 3 + 50 - 5);
     }
 
     private static void edges() {

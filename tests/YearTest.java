@@ -17,6 +17,7 @@ public final class YearTest {
             }
             compare(m, x, r);
         }
+        fullDam(r);
         ties();
         wrong();
         wrongRows();
@@ -154,6 +155,28 @@ public final class YearTest {
         }
         Check.due("dam " + row + " " + n + " " + dug + " of " + m.text(), x.dam(row, n, dug, 0), best);
         Check.due("kept " + row + " " + n + " " + dug + " of " + m.text(), x.dam(row, n, dug, 1), least);
+    }
+
+    /** As much as a RIVER and THE DAM can have at once, and TOWNS that want all of it. */
+    private static void fullDam(Random r) {
+        Model m = new Model();
+        m.places = 3;
+        m.gives[0] = new int[] {30, 30, 30, 30, 20, 30, 25, 0, 0, 1, 30, 30};
+        m.town[0] = new int[] {0, 9, 99, 9, 90};
+        m.town[1] = new int[] {1, 9, 80, 9, 70};
+        m.town[2] = new int[] {2, 9, 60, 9, 50};
+        m.towns = 3;
+        m.work[0] = new int[] {0, 1, 30, 1, 1, 1};
+        m.work[1] = new int[] {0, 2, 30, 1, 1, 1};
+        m.works = 2;
+        m.damPlace = 0;
+        m.damHolds = 9;
+        TurnedRivers x = Check.landOf(m);
+        for (int n = 1; n <= 5; n++) {
+            for (int i = 0; i < 9; i++) {
+                dam(m, x, r.nextInt((int) Math.pow(3, n)), n, 3);
+            }
+        }
     }
 
     private static int forward(Model m, int[] kinds, int dug, int firstKept) {

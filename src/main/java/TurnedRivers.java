@@ -10,6 +10,8 @@ public final class TurnedRivers {
     private static final int MEAN_YEAR = 1;
     private static final int MAX_UNITS = 30, MAX_DAM = 9;
     private static final int IMAGES = 2;
+    /** Where a WORK may be told, and none is meant. */
+    private static final int NO_WORK = -1;
 
     private static final int TOWN_PLACE = 0, TOWN_W = 1, TOWN_V = 2, TOWN_X = 3, TOWN_Y = 4, TOWN_FACTS = 5;
     private static final int FROM = 0, TO = 1, BREADTH = 2, TOLL = 3, COST = 4, DIG = 5, WORK_FACTS = 6;
@@ -110,7 +112,7 @@ public final class TurnedRivers {
         int plain = plainMost(kind, season, dug);
         flow.supply(told, kind, season);
         flow.supplies[place]++;
-        return flow.greatest(told, dug, told.allTowns(), NONE) - plain;
+        return flow.greatest(told, dug, told.allTowns(), NO_WORK) - plain;
     }
 
     public int edge(int kind, int season, int dug, int work) {
@@ -129,7 +131,7 @@ public final class TurnedRivers {
         int plain = plainMost(kind, season, dug);
         flow.supply(told, kind, season);
         flow.supplies[place] = Math.max(0, flow.supplies[place] - 1);
-        return plain - flow.greatest(told, dug, told.allTowns(), NONE);
+        return plain - flow.greatest(told, dug, told.allTowns(), NO_WORK);
     }
 
     public int send(int work, int v) {
@@ -385,7 +387,7 @@ public final class TurnedRivers {
 
     private int plainMost(int kind, int season, int dug) {
         flow.supply(told, kind, season);
-        return flow.greatest(told, dug, told.allTowns(), NONE);
+        return flow.greatest(told, dug, told.allTowns(), NO_WORK);
     }
 
     private int mostOfThreeYears(int set) {
@@ -400,7 +402,7 @@ public final class TurnedRivers {
         int sum = 0;
         for (int season = 0; season < SEASONS; season++) {
             flow.supply(told, kind, season);
-            sum += flow.greatest(told, told.allWorks(), set, NONE);
+            sum += flow.greatest(told, told.allWorks(), set, NO_WORK);
         }
         return sum;
     }
@@ -604,7 +606,7 @@ public final class TurnedRivers {
     }
 
     /** Cuts a text into TOKENS, up to the first that is none; what ends the text is a TOKEN, too. */
-    private static final class Scanner {
+    private static final class Tokens {
         static final int END = 0, WRONG = 1, SEMICOLON = 2, NUMBER = 3, WORD = 4;
         static final int PLACES = 0, RIVER = 1, TOWN = 2, WORK = 3, DAM = 4, FOLLOW = 5, UNKNOWN = -1;
 
@@ -706,7 +708,7 @@ public final class TurnedRivers {
 
     /** Reads TOKENS into a LAND, one ahead of another, up to the first that can't stand where it is. */
     private static final class Reader {
-        private final Scanner tokens = new Scanner();
+        private final Tokens tokens = new Tokens();
         private int at;
 
         /** How many ITEMS were read, or -10 less FAULT. */
@@ -715,7 +717,7 @@ public final class TurnedRivers {
             into.empty();
             at = 0;
             for (int items = 0; items <= length; items++) {
-                if (items > 0 && tokens.kinds[at] == Scanner.END) {
+                if (items > 0 && tokens.kinds[at] == Tokens.END) {
                     return items;
                 }
                 if (!readItem(into, items == 0)) {
@@ -726,14 +728,14 @@ public final class TurnedRivers {
         }
 
         private boolean readItem(Land into, boolean first) {
-            if (tokens.kinds[at] != Scanner.WORD || first != (tokens.meanings[at] == Scanner.PLACES)) {
+            if (tokens.kinds[at] != Tokens.WORD || first != (tokens.meanings[at] == Tokens.PLACES)) {
                 return false;
             }
             if (!readFacts(into)) {
                 return false;
             }
             step();
-            if (tokens.kinds[at] != Scanner.SEMICOLON) {
+            if (tokens.kinds[at] != Tokens.SEMICOLON) {
                 return false;
             }
             step();
@@ -742,12 +744,12 @@ public final class TurnedRivers {
 
         private boolean readFacts(Land into) {
             switch (tokens.meanings[at]) {
-                case Scanner.PLACES: return readPlaces(into);
-                case Scanner.RIVER: return readRiver(into);
-                case Scanner.TOWN: return readTown(into);
-                case Scanner.WORK: return readWork(into);
-                case Scanner.DAM: return readDam(into);
-                case Scanner.FOLLOW: return readFollow(into);
+                case Tokens.PLACES: return readPlaces(into);
+                case Tokens.RIVER: return readRiver(into);
+                case Tokens.TOWN: return readTown(into);
+                case Tokens.WORK: return readWork(into);
+                case Tokens.DAM: return readDam(into);
+                case Tokens.FOLLOW: return readFollow(into);
                 default: return false;
             }
         }
@@ -847,7 +849,8 @@ public final class TurnedRivers {
 
         private boolean readNumber(int low, int high) {
             step();
-            return tokens.kinds[at] == Scanner.NUMBER && isWithin(number(), low, high);
+            int read = tokens.meanings[at];
+            return tokens.kinds[at] == Tokens.NUMBER && read >= low && read <= high;
         }
 
         private int number() {
@@ -1045,7 +1048,7 @@ public final class TurnedRivers {
                 int sum = 0;
                 for (int season = 0; season < SEASONS; season++) {
                     flow.supply(land, kind, season);
-                    sum += flow.greatest(land, dug, land.allTowns(), NONE);
+                    sum += flow.greatest(land, dug, land.allTowns(), NO_WORK);
                 }
                 known[index] = sum;
             }
@@ -1185,7 +1188,7 @@ public final class TurnedRivers {
             if (mosts[index] == UNKNOWN) {
                 flow.supply(land, kind, season);
                 flow.supplies[land.damPlace] = water;
-                mosts[index] = flow.greatest(land, dug, land.allTowns(), NONE);
+                mosts[index] = flow.greatest(land, dug, land.allTowns(), NO_WORK);
             }
             return mosts[index];
         }
