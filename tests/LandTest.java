@@ -12,6 +12,7 @@ public final class LandTest {
         tellings();
         anew();
         nothingLeftOver();
+        withoutTokens();
         Check.end("LandTest");
     }
 
@@ -60,7 +61,6 @@ public final class LandTest {
         Check.due("type 1", x.type(0x20, 1), 400);
         Check.due("type 1 more", x.type(0x20, 1), -3);
         Check.due("count(4)", x.count(4), 400);
-        Check.due("land() of blanks", x.land(), -410);
         Check.due("clear()", x.clear(), 400);
         Check.due("clear()", x.clear(), 0);
         Check.due("count(4)", x.count(4), 0);
@@ -90,9 +90,11 @@ public final class LandTest {
     }
 
     private static void faults() {
-        fault("", 0);
-        fault("   ", 3);
         fault("places", 6);
+        fault("  places", 8);
+        fault("places 2;dam 0 1", 16);
+        fault("places 2;dam 0 1  ", 18);
+        fault("    !", 4);
         fault("places 2", 8);
         fault("places 2 ", 9);
         fault("places 2;dam", 12);
@@ -308,5 +310,51 @@ public final class LandTest {
         Check.tell(x, "places 2;" + RIVER + "town 0 9 1 0 0;");
         x.land();
         Check.due("follow is as at first", x.mean(0, 2, 0), 10 * x.year(0, 0) + 10 * x.year(1, 0));
+    }
+
+    /** A text without a TOKEN has no FAULT: 0 ITEMS, and the LAND is as at first. */
+    private static void withoutTokens() {
+        Check.due("land() of a new object", new TurnedRivers().land(), 0);
+        for (int blanks = 0; blanks <= 400; blanks += 40) {
+            TurnedRivers x = Check.landOf("places 3;" + RIVER + "town 0 3 9 1 1;work 0 1 9 0 4 1;dam 0 3;follow 0 0 0 10;", 6);
+            x.send(0, 4);
+            x.share(0, 5);
+            x.lake(0, 6);
+            x.image(0);
+            x.image(1);
+            x.value(0, 0);
+            Check.that("year(1, 1) brings some", x.year(1, 1) > 0);
+            Check.tell(x, " ".repeat(blanks));
+            Check.due("land() of " + blanks + " blanks", x.land(), 0);
+            nothingTold(x);
+            Check.due("the lake stays", x.lake(0, 6), 6);
+            Check.due("the trace stays", x.trace(), 1);
+            Check.due("land() of nothing again", x.land(), 0);
+            nothingTold(x);
+            Check.tell(x, "places 2;town 1 1 1 1 1;work 0 1 1 1 1 1;");
+            Check.due("land() behind it", x.land(), 3);
+            Check.due("sending is nothing", x.send(0, 0), 0);
+            Check.due("shares are 0", x.share(0, 0), 0);
+        }
+    }
+
+    private static void nothingTold(TurnedRivers x) {
+        int[] counts = {1, 0, 0, 0, 0};
+        for (int what = 0; what < 5; what++) {
+            Check.due("count " + what, x.count(what), counts[what]);
+        }
+        Check.due("gives(0, 1, 0)", x.gives(0, 1, 0), 0);
+        Check.due("gives(1, 1, 0)", x.gives(1, 1, 0), -1);
+        Check.due("keep(0, 0)", x.keep(0, 0), -1);
+        Check.due("town(0, 0)", x.town(0, 0), -1);
+        Check.due("work(0, 0)", x.work(0, 0), -1);
+        Check.due("send(0, 0)", x.send(0, 0), -1);
+        Check.due("share(0, 0)", x.share(0, 0), -1);
+        Check.due("most(1, 0, 1)", x.most(1, 0, 1), 0);
+        Check.due("year(1, 1)", x.year(1, 1), 0);
+        Check.due("dam(0, 1, 1, 0)", x.dam(0, 1, 1, 0), -2);
+        Check.due("treaty(1, 0)", x.treaty(1, 0), -1000000);
+        Check.due("back(0)", x.back(0), -2);
+        Check.due("back(1)", x.back(1), -2);
     }
 }

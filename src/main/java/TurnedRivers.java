@@ -717,7 +717,8 @@ public final class TurnedRivers {
             into.empty();
             at = 0;
             for (int items = 0; items <= length; items++) {
-                if (items > 0 && tokens.kinds[at] == Tokens.END) {
+                // Even where none was told: a text without a TOKEN has none that can't stand there.
+                if (tokens.kinds[at] == Tokens.END) {
                     return items;
                 }
                 if (!readItem(into, items == 0)) {
