@@ -93,7 +93,8 @@ final class Edge {
             add(all, x.back(image));
             standingOf(x, all);
         }
-        for (int place = 0; place < x.count(0); place++) {
+        int places = x.count(0);
+        for (int place = 0; place < places; place++) {
             add(all, x.keep(place, 0));
         }
         add(all, x.type(';', 1), x.land(), x.count(0), x.count(1), x.count(2), x.count(3), x.clear());
@@ -101,22 +102,27 @@ final class Edge {
     }
 
     private static void landOf(TurnedRivers x, List<Long> all) {
-        for (int i = 0; i < x.count(0) * 12; i++) {
+        int places = x.count(0);
+        int towns = x.count(1);
+        int works = x.count(2);
+        for (int i = 0; i < places * 12; i++) {
             add(all, x.gives(i / 12, i / 4 % 3, i % 4));
         }
-        for (int i = 0; i < x.count(1) * 5; i++) {
+        for (int i = 0; i < towns * 5; i++) {
             add(all, x.town(i / 5, i % 5));
         }
-        for (int i = 0; i < x.count(2) * 6; i++) {
+        for (int i = 0; i < works * 6; i++) {
             add(all, x.work(i / 6, i % 6));
         }
     }
 
     private static void standingOf(TurnedRivers x, List<Long> all) {
-        for (int w = 0; w < x.count(2); w++) {
+        int works = x.count(2);
+        int towns = x.count(1);
+        for (int w = 0; w < works; w++) {
             add(all, x.send(w, 0));
         }
-        for (int t = 0; t < x.count(1); t++) {
+        for (int t = 0; t < towns; t++) {
             add(all, x.share(t, 0));
         }
         for (int what = 0; what < 3; what++) {

@@ -306,6 +306,11 @@ public final class EdgeLakeTest {
         x.share(2, 0);
         x.share(0, 0);
         Check.due("the first and the third", x.treaty(0, 1), 5);
+        x.share(0, 5);
+        x.share(1, 0);
+        x.share(2, 17);
+        Check.due("the second alone", x.treaty(0, 1), 2);
+        Check.due("the second alone", x.treaty(0, 0), 8);
     }
 
     /** "STABLE, if it is 0 or less, and all SHARES together are ALONE of all TOWNS at most". */

@@ -28,6 +28,7 @@ public final class EdgeSeasonTest {
         judgeWhat();
         judgedByBreadth();
         judgedByPlaces();
+        judgedAtEachPlace();
         judgedFirst();
         brings();
         bringsWhereMoreGo();
@@ -378,6 +379,21 @@ public final class EdgeSeasonTest {
         dueJudged(x, "round in a circle, without a river's water", Edge.NONE, Edge.NONE);
         x.send(2, 29);
         dueJudged(x, "one is missing", 2, 0);
+    }
+
+    /** "the least such PLACE": the last of eight, and each ahead of it. */
+    private static void judgedAtEachPlace() {
+        StringBuilder text = new StringBuilder("places 8;");
+        for (int p = 0; p < 8; p++) {
+            text.append("work ").append(p).append(' ').append(p ^ 1).append(" 9 0 0 1;");
+        }
+        TurnedRivers x = Check.landOf(text.toString(), 9);
+        dueJudged(x, "nothing sent", Edge.NONE, Edge.NONE);
+        for (int p = 7; p >= 0; p--) {
+            // What its neighbour sent comes here, so one more must go.
+            x.send(p, p % 2 == 0 ? 2 : 1);
+            dueJudged(x, "from " + p, 2, p);
+        }
     }
 
     /** "the first of": a WORK ahead of a PLACE. */

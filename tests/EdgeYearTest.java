@@ -28,6 +28,9 @@ public final class EdgeYearTest {
         damKeepsTheLeast();
         damWithoutRiver();
         damRowsFirstIsHighest();
+        damAtEachPlace();
+        keepCountsAtOnce();
+        landReadAnewCountsAtOnce();
         Check.end("EdgeYearTest");
     }
 
@@ -373,5 +376,56 @@ public final class EdgeYearTest {
         Check.due("mean four times, then wet", x.dam(81 + 27 + 9 + 3, 5, 0, 0), 80);
         Check.due("all dry", x.dam(242, 5, 0, 0), 5 * 40);
         Check.due("all wet", x.dam(0, 5, 0, 0), 5 * 80);
+    }
+
+    /** "A DAM at a PLACE": the RIVER there alone is held. */
+    private static void damAtEachPlace() {
+        for (int place = 0; place < 8; place++) {
+            int other = (place + 1) % 8;
+            TurnedRivers x = Check.landOf("places 8;river " + place + " 0 4 0 0 0 0 0 0 0 0 0 0 0;river " + other
+                    + " 0 4 0 0 0 0 0 0 0 0 0 0 0;town " + place + " 1 10 0 0;town " + other + " 1 7 0 0;dam " + place
+                    + " 9;", 6);
+            Check.due("the dam's own place " + place, x.dam(0, 1, 0, 0), 4 * 10 + 7);
+            Check.due("kept there", x.dam(0, 1, 0, 1), 3);
+        }
+    }
+
+    /** A KEEP that was refused counts nowhere; one that is told counts in the next answer of each call. */
+    private static void keepCountsAtOnce() {
+        TurnedRivers x = Check.landOf("places 1;river 0 0 3 3 3 3 3 3 3 3 3 3 3 3;town 0 9 1 0 0;dam 0 1;", 4);
+        int[] keeps = {0, 31, 1, -1, 3, 30, 2, 0};
+        int kept = 0;
+        for (int v : keeps) {
+            boolean well = v >= 0 && v <= 30;
+            Check.due("keep " + v, x.keep(0, v), well ? kept : Edge.BAD);
+            kept = well ? v : kept;
+            int year = 4 * Math.max(0, 3 - kept);
+            Check.due("year", x.year(1, 0), year);
+            Check.due("best", x.best(0, 1), 3 * year);
+            Check.due("order", x.order(0, 20, 0), 20 * year);
+            Check.due("mean", x.mean(2, 2, 0), 20 * year);
+            Check.due("dam", x.dam(0, 1, 0, 0), year);
+            Check.due("alone", x.alone(1, 1), year);
+            Check.due("treaty", x.treaty(1, 0), year);
+        }
+    }
+
+    /** "THE TEXT becomes THE LAND": in all that is asked of YEARS; a FAULT leaves all as it was. */
+    private static void landReadAnewCountsAtOnce() {
+        TurnedRivers x = Check.landOf("places 2;river 0 0 3 3 3 3 3 3 3 3 3 3 3 3;town 0 9 1 0 0;dam 0 1;follow 1 0 0 10;", 5);
+        Check.due("year", x.year(1, 0), 12);
+        Check.due("mean", x.mean(1, 2, 0), 240);
+        Check.tell(x, "places 2;town 0 9 1 0 0;dam 0 1;!");
+        Check.due("a fault", x.land(), -10 - 32);
+        Check.due("year stays", x.year(1, 0), 12);
+        x.clear();
+        Check.tell(x, "places 2;river 1 0 0 0 0 0 1 1 1 1 5 5 5 5;town 1 9 1 0 0;");
+        Check.due("read anew", x.land(), 3);
+        Check.due("the old river is gone", x.gives(0, 1, 0), 0);
+        Check.due("year", x.year(1, 0), 4);
+        Check.due("best", x.best(999, 1), 24);
+        Check.due("order", x.order(0, 2, 0), 8);
+        Check.due("follow is as at first", x.mean(1, 2, 0), 40 + 40);
+        Check.due("the dam is gone", x.dam(0, 1, 0, 0), Edge.STATE);
     }
 }
