@@ -29,6 +29,7 @@ public final class EdgeYearTest {
         damWithoutRiver();
         damRowsFirstIsHighest();
         damAtEachPlace();
+        damWhereNothingIsWorthAnything();
         keepCountsAtOnce();
         landReadAnewCountsAtOnce();
         Check.end("EdgeYearTest");
@@ -387,6 +388,21 @@ public final class EdgeYearTest {
                     + " 9;", 6);
             Check.due("the dam's own place " + place, x.dam(0, 1, 0, 0), 4 * 10 + 7);
             Check.due("kept there", x.dam(0, 1, 0, 1), 3);
+        }
+    }
+
+    /** "the least by which it can be": 0, if no keeping brings anything; also behind a row in which some was kept. */
+    private static void damWhereNothingIsWorthAnything() {
+        TurnedRivers x = Check.landOf("places 2;river 0 0 9 0 0 0 9 9 9 9 0 0 0 0;town 1 2 10 0 0;work 0 1 9 0 0 1;dam 0 9;", 5);
+        for (int i = 0; i < 2; i++) {
+            Check.due("some is kept", x.dam(0, 1, 1, 1), 6);
+            Check.due("no work is dug: nothing comes", x.dam(0, 1, 0, 0), 0);
+            Check.due("no work is dug: nothing is kept", x.dam(0, 1, 0, 1), 0);
+            Check.due("some is kept again", x.dam(0, 1, 1, 1), 6);
+            Check.due("no water: nothing comes", x.dam(2, 1, 1, 0), 0);
+            Check.due("no water: nothing is kept", x.dam(2, 1, 1, 1), 0);
+            Check.due("some is kept again", x.dam(0, 1, 1, 1), 6);
+            Check.due("enough in each season: nothing is kept", x.dam(1, 1, 1, 1), 0);
         }
     }
 
